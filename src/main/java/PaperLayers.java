@@ -711,46 +711,49 @@ public final class PaperLayers {
 
         /** How many are heard, from the topmost on. */
         int heardBy(int warmth) {
-            int lifted = liftedBy(warmth);
-            for (int k = 0; k < lifted; k++) {
-                if (layers[k].kind == RED) {
+            for (int k = 0; k < count; k++) {
+                if (layers[k].kind == RED || layers[k].grip() > warmth) {
                     return k;
                 }
             }
-            return lifted;
+            return count;
         }
 
         int counselBy(int warmth) {
             int heard = heardBy(warmth);
+            long votes = votesOf(heard);
             int most = 0;
             int counsel = NONE;
             for (int k = 0; k < heard; k++) {
-                int alike = countAlike(k, heard);
-                if (alike > most) {
-                    most = alike;
+                int given = votesFor(layers[k].advice, votes);
+                if (given > most) {
+                    most = given;
                     counsel = layers[k].advice;
                 }
             }
             return counsel;
         }
 
-        /** How many of the first ones advise what layer k does. */
-        private int countAlike(int k, int heard) {
-            int alike = 0;
-            for (int other = 0; other < heard; other++) {
-                if (layers[other].advice == layers[k].advice) {
-                    alike++;
-                }
-            }
-            return alike;
-        }
-
         int mostAlike(int heard) {
+            long votes = votesOf(heard);
             int most = 0;
             for (int k = 0; k < heard; k++) {
-                most = Math.max(most, countAlike(k, heard));
+                most = Math.max(most, votesFor(layers[k].advice, votes));
             }
             return most;
+        }
+
+        /** How many give each advice, in four bits each: a row of ten would have to be cleared for each count. */
+        private long votesOf(int heard) {
+            long votes = 0;
+            for (int k = 0; k < heard; k++) {
+                votes += 1L << 4 * layers[k].advice;
+            }
+            return votes;
+        }
+
+        private static int votesFor(int advice, long votes) {
+            return (int) (votes >> 4 * advice) & 15;
         }
 
         int unlikeTwos(int heard) {

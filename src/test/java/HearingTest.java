@@ -42,6 +42,7 @@ public final class HearingTest {
         due("above", x.gets(10), PaperLayers.OUTSIDE);
         due("red is not heard", Check.made("w90;r07;s07").gets(7), PaperLayers.NONE);
         due("advice 0 by 0", Check.made("w90;s00;s07").gets(0), 0);
+        due("as warm as may be needed", Check.made("w09;t96;s07").gets(6), 19);
     }
 
     private static void without() {
@@ -57,7 +58,8 @@ public final class HearingTest {
         due("layers are as they were", x.many(0), 6);
         due("heard as it was", x.heard(), 15);
         due("one that holds is taken out", Check.made("w30;s90;s02").without(2), 1);
-        due("fewest, not least", Check.made("w90;s01;s01;r00;s02;s02;s02").without(2), 4);
+        due("a red one is taken out", Check.made("w90;s01;s01;r00;s02;s02;s02").without(2), 4);
+        due("one of 8, not two of 3", Check.made("w50;s01;s01;s02;s92;s02;s02").without(2), 8);
         due("too damp for all", Check.made("w09;s01;s02").without(2), PaperLayers.NONE);
         due("red alone", Check.made("w90;r01;r02").without(2), PaperLayers.NONE);
         due("all but the last", Check.made("w90;s91;s92;t93;r04;r95;s06").without(6), 31);

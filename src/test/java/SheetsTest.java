@@ -38,6 +38,13 @@ public final class SheetsTest {
         due("a new row", x.sheet(0, 0, 5), 1);
         due("is 0", x.cell(0, 3, 0), 0);
         due("and shorter", x.cell(0, 5, 0), PaperLayers.LOST);
+        for (int i = 0; i < 60; i++) {
+            x.put(1, i, i + 1);
+        }
+        x.sheet(1, 1, 60);
+        for (int i = 0; i < 60; i++) {
+            due("cell " + i + " of a new row", x.cell(1, i, 1), 0);
+        }
         due("of another lane", x.sheet(0, 2, 0), 1);
         due("without cells", x.put(0, 0, 1), -13);
         due("a row it is all the same", x.lose(0), 1);

@@ -130,6 +130,7 @@ public final class HeardEdgesTest {
     /** "it is LAYER 0, all others have 1 more". */
     private static void putUpUpToSix() {
         PaperLayers x = States.lone();
+        x.reading(2, 0, 4);
         for (int count = 2; count <= 6; count++) {
             int kind = count % 3;
             due("how many", x.putUp(kind, count, 9 - count), count);
@@ -145,6 +146,7 @@ public final class HeardEdgesTest {
             due("advice of " + k, x.ofLayer(k, 2), 3 + k);
             due("kind of " + k, x.ofLayer(k, 0), (6 - k) % 3);
         }
+        due("the reading stays", x.many(4), 1);
         due("a seventh", x.putUp(0, 0, 0), FULL);
         x.heat(20);
         due("one less", x.peel(), 3);

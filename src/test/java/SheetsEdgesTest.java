@@ -93,8 +93,13 @@ public final class SheetsEdgesTest {
         PaperLayers x = States.papered();
         for (int k = 0; k < 3; k++) {
             due("lose " + k, x.lose(k), 1);
-            due("nothing is NULL, whatever lane it had", x.cell(k, 0, k), PaperLayers.LOST);
-            due("fault NULL", x.fault(), NULL);
+            for (int lane = 0; lane < 3; lane++) {
+                due("nothing has no lane", x.cell(k, 0, lane), PaperLayers.LOST);
+                due("fault NULL", x.fault(), NULL);
+                due("nor for a text", x.wall(k, lane, 0, 0), -11);
+                due("nor for days", x.days(k, lane, 0, 0, 0), -11);
+            }
+            due("nor for a copy", x.copy(k, 0, (k + 1) % 3, 0, 0), -11);
             due("lose " + k + " again", x.lose(k), 0);
         }
         due("the wall stays", x.many(0), 4);
@@ -190,8 +195,11 @@ public final class SheetsEdgesTest {
     private static void copyRefused() {
         PAPERED.rangeNaming("copy: the first 0 .. 3", UNKNOWN, 0, 3, (x, v) -> x.copy(v, 0, 0, 0, 0));
         PAPERED.rangeNaming("copy: the other 0 .. 3", UNKNOWN, 0, 3, (x, v) -> x.copy(0, 0, v, 0, 0));
-        PAPERED.fault("copy: the first has nothing", NULL, x -> x.copy(3, 0, 0, 0, 0));
-        PAPERED.fault("copy: the other has nothing", NULL, x -> x.copy(0, 0, 3, 0, 0));
+        for (int given = 0; given < 3; given++) {
+            int k = given;
+            PAPERED.fault("copy: the first has nothing, of no lane, the other lane " + k, NULL, x -> x.copy(3, 0, k, 0, 0));
+            PAPERED.fault("copy: the other has nothing, the first lane " + k, NULL, x -> x.copy(k, 0, 3, 0, 0));
+        }
         PAPERED.fault("copy: both have nothing", NULL, x -> x.copy(3, 0, 3, 0, 0));
         for (int a = 0; a < 3; a++) {
             for (int b = 0; b < 3; b++) {

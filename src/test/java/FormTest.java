@@ -15,6 +15,7 @@ import java.util.regex.Pattern;
 public final class FormTest {
     private static final Check CHECK = new Check();
     private static final Path SOURCE = Path.of("src/main/java/PaperLayers.java");
+    private static final Path DOCUMENT = Path.of("../shared/DOC.md");
     private static final String[] FACE = {"int wall(int,int,int,int)", "int ofLayer(int,int)", "int heat(int)",
         "int wet(int)", "int paste(int,int)", "int heard()", "int counsel(int,int)", "int clash(int)",
         "int putUp(int,int,int)", "int peel()", "int days(int,int,int,int,int)", "int needs(int)", "int gets(int)",
@@ -24,11 +25,24 @@ public final class FormTest {
         "int stroke(int)", "int as(int,int)", "int trace()", "int fault()", "int many(int)"};
 
     public static void main(String[] args) throws Exception {
+        faceOfTheDocument();
         face();
         constants();
         membersOfClassesInside();
         words();
         CHECK.end();
+    }
+
+    /** The list above is the document's, call by call, so that it can't be left behind. */
+    private static void faceOfTheDocument() throws java.io.IOException {
+        String document = Files.readString(DOCUMENT);
+        Matcher call = Pattern.compile("(?m)^    public (int|long) (\\w+)\\(([^)]*)\\);$").matcher(document);
+        Set<String> found = new TreeSet<>();
+        while (call.find()) {
+            found.add(call.group(1) + " " + call.group(2) + "(" + call.group(3).replaceAll("int \\w+(, )?", "int,")
+                .replaceAll(",$", "") + ")");
+        }
+        CHECK.isTrue("the document's face: " + found, found.equals(new TreeSet<>(Arrays.asList(FACE))));
     }
 
     private static String told(Method m) {
